@@ -138,6 +138,9 @@ public final class LogTest {
     Due.is("empty in minutes 0 to 4", x.ends(1, 0, 1), 6);
     x.endDay(0);
     Due.is("counts are empty", x.ends(0, 0, 1), 0);
+    x.steal(1);
+    x.step(4);
+    Due.is("one ride; a minute of two was another day's", x.ends(0, 0, 1), 3);
   }
 
   private static void endsOfLaterHours() {
@@ -156,6 +159,8 @@ public final class LogTest {
     Due.is("its greatest", x.ends(0, 23, 1), 60);
     Due.is("the last minute of the other", x.ends(1, 23, 0), 2);
     Due.is("one minute empty, two rides in it", x.ends(1, 23, 1), 4);
+    x.endDay(0);
+    Due.is("forecast of the last hour", x.forecast(0, 1, 23, 0), 2);
   }
 
   private static void forecast() {

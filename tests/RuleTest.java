@@ -191,6 +191,12 @@ public final class RuleTest {
     test(true, NOT, OPENS, NOT, OPENS, 1, IS, 1, CLOSES, CLOSES);
     test(false, 1, IS, 1, AND, NOT, OPENS, 1, IS, 1, CLOSES);
     test(false, 1, IS, 2, AND, OPENS, 1, IS, 1, CLOSES);
+    test(false, NOT, OPENS, OPENS, OPENS, OPENS, OPENS, OPENS, OPENS, OPENS, 1, IS, 2, OR, 1, IS, 1,
+        CLOSES, CLOSES, CLOSES, CLOSES, CLOSES, CLOSES, CLOSES, CLOSES);
+    test(true, OPENS, OPENS, OPENS, OPENS, OPENS, OPENS, OPENS, NOT, OPENS, 1, IS, 2, OR, 1, IS, 3,
+        CLOSES, CLOSES, CLOSES, CLOSES, CLOSES, CLOSES, CLOSES, CLOSES);
+    test(true, NOT, OPENS, OPENS, 1, IS, 2, CLOSES, AND, OPENS, 1, IS, 1, CLOSES, CLOSES);
+    test(false, OPENS, 1, IS, 2, OR, 1, IS, 1, CLOSES, AND, OPENS, 1, IS, 2, OR, 1, IS, 3, CLOSES);
   }
 
   private static void units() {

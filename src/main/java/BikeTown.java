@@ -264,22 +264,17 @@ public final class BikeTown {
 
     public int whatIf(int rule, int what) {
         if (!isIn(rule, 0, rules.size - 1) || !isIn(what, 0, 3)) return BAD;
-        goAgain(rule);
+        int next = 0;
+        again.begin(rule);
+        for (int m = 0; m < day.minute; m++) {
+            next = again.redo(hands, next);
+            again.passMinute();
+        }
         switch (what) {
             case 0: return sumOver(again.record.taken);
             case 1: return sumOver(again.record.lost);
             case 2: return again.record.paid;
             default: return sumOver(again.record.empty);
-        }
-    }
-
-    /** The day up to THE MINUTE once more, one rule turned. */
-    private void goAgain(int ruleToTurn) {
-        int next = 0;
-        again.begin(ruleToTurn);
-        for (int m = 0; m < day.minute; m++) {
-            next = again.redo(hands, next);
-            again.passMinute();
         }
     }
 
