@@ -203,7 +203,7 @@ public final class BikeTown {
         if (!isIn(weekday, 0, 6)) return BAD;
         if (day.minute == 0) return NO;
         if (days.size >= MOST_DAYS) return FULL;
-        days.keep(weekday, day.record);
+        days.keep(weekday, day.diary);
         hands.size = 0;
         day.begin(NONE);
         return days.size;
@@ -241,18 +241,18 @@ public final class BikeTown {
 
     public int log(int i, int what) {
         if (i < 0 || !isIn(what, 0, LINE_ANSWERS - 1)) return BAD;
-        return i < day.record.lines ? day.record.line[what][i] : NONE;
+        return i < day.diary.lines ? day.diary.line[what][i] : NONE;
     }
 
     public int asOf(int post, int minute) {
         if (!told.isPost(post) || !isIn(minute, 0, day.minute)) return BAD;
-        return told.bikesAhead(post) + day.record.changeTill(post, minute);
+        return told.bikesAhead(post) + day.diary.changeTill(post, minute);
     }
 
     public int ends(int post, int hour, int what) {
         if (!told.isPost(post) || !isIn(hour, 0, HOURS - 1) || !isIn(what, 0, 1)) return BAD;
-        int least = day.record.taken[post][hour] + day.record.lost[post][hour];
-        int most = least + day.record.empty[post][hour] * Math.max(1, day.record.busiest[post][hour]);
+        int least = day.diary.taken[post][hour] + day.diary.lost[post][hour];
+        int most = least + day.diary.empty[post][hour] * Math.max(1, day.diary.busiest[post][hour]);
         return what == 0 ? least : most;
     }
 
@@ -271,16 +271,16 @@ public final class BikeTown {
             again.passMinute();
         }
         switch (what) {
-            case 0: return sumOver(again.record.taken);
-            case 1: return sumOver(again.record.lost);
-            case 2: return again.record.paid;
-            default: return sumOver(again.record.empty);
+            case 0: return sumOver(again.diary.taken);
+            case 1: return sumOver(again.diary.lost);
+            case 2: return again.diary.paid;
+            default: return sumOver(again.diary.empty);
         }
     }
 
     private int sumOver(int[][] hourCounts) {
         int sum = 0;
-        for (int p = 0; p < told.posts; p++) sum += Record.sumOf(hourCounts[p]);
+        for (int p = 0; p < told.posts; p++) sum += Diary.sumOf(hourCounts[p]);
         return sum;
     }
 
@@ -358,9 +358,9 @@ public final class BikeTown {
             case 2: return told.riders;
             case 3: return rules.size;
             case 4: return day.minute;
-            case 5: return day.record.lines;
+            case 5: return day.diary.lines;
             case 6: return days.size;
-            case 7: return day.record.paid;
+            case 7: return day.diary.paid;
             case 8: return hands.size;
             case 9: return rules.length;
             default: return BAD;
@@ -376,7 +376,7 @@ public final class BikeTown {
         for (int b = 0; b < told.bikes; b++) h = digestAt(h, day.bike, b);
         for (int r = 0; r < told.riders; r++) h = digestAt(h, day.rider, r);
         for (int w = 0; w <= 3; w++) h = 31 * h + van(w);
-        for (int i = 0; i < day.record.lines; i++) h = digestAt(h, day.record.line, i);
+        for (int i = 0; i < day.diary.lines; i++) h = digestAt(h, day.diary.line, i);
         return h;
     }
 
@@ -627,7 +627,7 @@ public final class BikeTown {
     }
 
     /** The log and the counts of a day. */
-    private static final class Record {
+    private static final class Diary {
         final int mostLines;
         int lines;
         int paid;
@@ -639,7 +639,7 @@ public final class BikeTown {
         final int[][] busiest = new int[MOST_POSTS][HOURS];
         private final int[] takenNow = new int[MOST_POSTS];
 
-        Record(int most) {
+        Diary(int most) {
             int room = Math.max(0, most);
             mostLines = room;
             line = new int[LINE_ANSWERS][room];
@@ -751,7 +751,7 @@ public final class BikeTown {
     private static final class Day {
         final Told told;
         final Rules rules;
-        final Record record;
+        final Diary diary;
         final Van van = new Van();
         /** The next minute to be gone through. */
         int minute;
@@ -771,7 +771,7 @@ public final class BikeTown {
         Day(Told town, Rules texts, int mostLines) {
             told = town;
             rules = texts;
-            record = new Record(mostLines);
+            diary = new Diary(mostLines);
         }
 
         // -- the day's beginning
@@ -783,7 +783,7 @@ public final class BikeTown {
             for (int b = 0; b < told.bikes; b++) startBike(b);
             for (int r = 0; r < told.riders; r++) startRider(r);
             van.begin();
-            record.clear();
+            diary.clear();
         }
 
         void startPost(int p) {
@@ -877,7 +877,7 @@ public final class BikeTown {
         private void setOpen(int p, boolean is) {
             if (isOpen[p] == is) return;
             isOpen[p] = is;
-            record.add(is ? LOG_OPENED : LOG_CLOSED, minute, p, NONE, NONE);
+            diary.add(is ? LOG_OPENED : LOG_CLOSED, minute, p, NONE, NONE);
         }
 
         int tellPost(int p, int what) {
@@ -888,9 +888,9 @@ public final class BikeTown {
                 case 3: return price[p];
                 case 4: return isOpen[p] ? 1 : 0;
                 case 5: return waiting[p];
-                case 6: return Record.sumOf(record.taken[p]);
-                case 7: return Record.sumOf(record.lost[p]);
-                default: return Record.sumOf(record.empty[p]);
+                case 6: return Diary.sumOf(diary.taken[p]);
+                case 7: return Diary.sumOf(diary.lost[p]);
+                default: return Diary.sumOf(diary.empty[p]);
             }
         }
 
@@ -921,11 +921,11 @@ public final class BikeTown {
                     break;
                 case HAND_STEAL:
                     lift(a, GONE);
-                    record.add(LOG_GONE, minute, bike[POST][a], NONE, a);
+                    diary.add(LOG_GONE, minute, bike[POST][a], NONE, a);
                     break;
                 case HAND_FIND:
                     settle(a, b);
-                    record.add(LOG_FOUND, minute, b, NONE, a);
+                    diary.add(LOG_FOUND, minute, b, NONE, a);
                     break;
                 default:
                     van.addStop(a, b);
@@ -936,7 +936,7 @@ public final class BikeTown {
 
         void passMinute() {
             if (minute >= DAY_MINUTES) return;
-            record.beginMinute();
+            diary.beginMinute();
             endRides();
             mendBikes();
             followRules();
@@ -976,7 +976,7 @@ public final class BikeTown {
             rider[STATE][r] = DONE;
             rider[LEFT][r] = minute;
             rider[LEFT_AT][r] = p;
-            record.add(LOG_LEFT, minute, p, r, b);
+            diary.add(LOG_LEFT, minute, p, r, b);
         }
 
         private int nearestThatTakes(int p) {
@@ -1000,7 +1000,7 @@ public final class BikeTown {
                 bike[WEAR][b] = 0;
                 bike[FAULTY][b] = 0;
                 settle(b, p);
-                record.add(LOG_MENDED, minute, p, NONE, b);
+                diary.add(LOG_MENDED, minute, p, NONE, b);
             }
         }
 
@@ -1045,7 +1045,7 @@ public final class BikeTown {
             if (!told.isBike(b)) return;
             lift(b, IN_SHOP);
             mendedAt[b] = minute + told.mend;
-            record.add(LOG_TO_SHOP, minute, bike[POST][b], NONE, b);
+            diary.add(LOG_TO_SHOP, minute, bike[POST][b], NONE, b);
         }
 
         private void driveVan() {
@@ -1070,14 +1070,14 @@ public final class BikeTown {
             lift(b, IN_VAN);
             bike[POST][b] = NONE;
             van.put(b);
-            record.add(LOG_VAN_TOOK, minute, p, NONE, b);
+            diary.add(LOG_VAN_TOOK, minute, p, NONE, b);
         }
 
         private void vanLeaves(int p) {
             int b = freeRacks(p) > 0 ? van.takeFirst() : NONE;
             if (b == NONE) return;
             settle(b, p);
-            record.add(LOG_VAN_LEFT, minute, p, NONE, b);
+            diary.add(LOG_VAN_LEFT, minute, p, NONE, b);
         }
 
         private void lookAtRiders() {
@@ -1107,8 +1107,8 @@ public final class BikeTown {
 
         private void lose(int r, int p, int state) {
             rider[STATE][r] = state;
-            record.lost[p][hour()]++;
-            record.add(state == LOST_DEAR ? LOG_DEAR : LOG_EMPTY, minute, p, r, NONE);
+            diary.lost[p][hour()]++;
+            diary.add(state == LOST_DEAR ? LOG_DEAR : LOG_EMPTY, minute, p, r, NONE);
         }
 
         private void takeBike(int r, int b, int p) {
@@ -1120,13 +1120,13 @@ public final class BikeTown {
             rider[TAKEN][r] = minute;
             rider[PAID][r] = price[p];
             rideEnds[r] = minute + told.minutesBetween(p, to);
-            record.countTaken(p, hour(), price[p]);
-            record.add(LOG_TAKEN, minute, p, r, b);
+            diary.countTaken(p, hour(), price[p]);
+            diary.add(LOG_TAKEN, minute, p, r, b);
         }
 
         private void countEmpty() {
             for (int p = 0; p < told.posts; p++) {
-                if (soundAt[p] == 0) record.empty[p][hour()]++;
+                if (soundAt[p] == 0) diary.empty[p][hour()]++;
             }
         }
     }
@@ -1137,10 +1137,10 @@ public final class BikeTown {
         private final int[] weekdays = new int[MOST_DAYS];
         private final int[][] taken = new int[MOST_DAYS][MOST_POSTS * HOURS];
 
-        void keep(int weekday, Record record) {
+        void keep(int weekday, Diary diary) {
             weekdays[size] = weekday;
             for (int p = 0; p < MOST_POSTS; p++) {
-                for (int h = 0; h < HOURS; h++) taken[size][p * HOURS + h] = record.taken[p][h];
+                for (int h = 0; h < HOURS; h++) taken[size][p * HOURS + h] = diary.taken[p][h];
             }
             size++;
         }
