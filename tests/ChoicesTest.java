@@ -28,6 +28,7 @@ public final class ChoicesTest {
     sitesByOpenPosts();
     sitesOfTwelve();
     testsAtTheirEnds();
+    linesBesideScores();
     linesOfOneKind();
     sharesAtTheirEnds();
     countsOfAll();
@@ -433,6 +434,19 @@ public final class ChoicesTest {
     for (int i = 3; i <= 60; i++) Due.is("row " + i, x.test(100, true), i);
     Due.is("58 are", x.line(500, 1), 58);
     Due.is("with a line of 101 none is found", x.line(0, 1), 0);
+  }
+
+  /** The least score that is high enough, from 0 to 101. */
+  private static void linesBesideScores() {
+    for (int score : new int[] {0, 1, 50, 98, 99, 100}) {
+      BikeTown x = new BikeTown();
+      x.test(score, false);
+      x.test(score, true);
+      Due.is("just above " + score, x.line(0, 0), score + 1);
+      Due.is("finds none of " + score, x.line(0, 1), 0);
+      Due.is("all may be", x.line(1000, 0), 0);
+      Due.is("finds that of " + score, x.line(1000, 1), 1);
+    }
   }
 
   private static void linesOfOneKind() {

@@ -31,7 +31,9 @@ public final class TermsTest {
     hourIsCut();
     waitingAsItBegins();
     priceIsBrought();
+    eachTestAnew();
     nothingToFix();
+    fixAmongSixty();
     actsAlone();
     rulesForAllPosts();
     tenRules();
@@ -629,6 +631,34 @@ public final class TermsTest {
     Due.rule(y, 0, 11, 1, 12, 0, 20, 28);
     y.step(1);
     Due.is("a sum below 0 in a test", y.postAt(0, 4), 0);
+  }
+
+  /** What held in one rule, or in one pair of brackets, is not left for the next. */
+  private static void eachTestAnew() {
+    BikeTown x = row(1, 1);
+    Due.rule(x, 1, 13, 1, 18, 1, 13, 2, 20, 23, 13, 5);
+    Due.rule(x, 1, 13, 2, 20, 28);
+    Due.rule(x, 15, 1, 13, 1, 18, 1, 13, 2, 16, 17, 15, 1, 13, 2, 18, 1, 13, 3, 16, 20, 28);
+    Due.rule(x, 19, 15, 1, 13, 2, 16, 17, 15, 1, 13, 2, 16, 20, 28);
+    Due.rule(x, 15, 15, 1, 13, 1, 18, 1, 13, 2, 16, 18, 1, 13, 2, 16, 17, 1, 13, 3, 20, 28);
+    x.step(2);
+    for (int p = 0; p < 2; p++) Due.is("rule 0 holds", x.postAt(p, 3), 5);
+    for (int p = 0; p < 2; p++) Due.is("none of the others does", x.postAt(p, 4), 1);
+    Due.is("no line", x.count(5), 0);
+  }
+
+  private static void fixAmongSixty() {
+    BikeTown x = row(20, 20, 20);
+    for (int b = 0; b < 60; b++) x.bike(b / 20);
+    Due.rule(x, 1, 13, 1, 20, 30);
+    x.step(1);
+    Due.is("none of 60 is faulty", x.count(5), 0);
+    x.faulty(59);
+    x.faulty(0);
+    x.step(1);
+    line(x, 0, 7, 1, 0, -1, 0);
+    line(x, 1, 7, 1, 2, -1, 59);
+    Due.is("no more", x.count(5), 2);
   }
 
   private static void nothingToFix() {
