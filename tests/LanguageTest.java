@@ -29,9 +29,12 @@ public final class LanguageTest {
   public static void main(String[] args) throws Exception {
     face();
     for (Class<?> inside : BikeTown.class.getDeclaredClasses()) inside(inside);
+    constants();
     if (BikeTown.class.getDeclaredClasses().length > 11) bad("more than twelve classes");
     String source = Files.readString(Path.of("src/main/java/BikeTown.java"));
-    words(source.replaceAll("(?s)/\\*.*?\\*/", "").replaceAll("//[^\n]*", ""));
+    String code = source.replaceAll("(?s)/\\*.*?\\*/", "").replaceAll("//[^\n]*", "");
+    words(code);
+    methods(code);
     System.out.println(wrong == 0 ? "the program keeps to the rules" : wrong + " breaches");
     if (wrong != 0) System.exit(1);
   }
@@ -65,7 +68,32 @@ public final class LanguageTest {
     if (!Modifier.isStatic(c.getModifiers())) bad("not static: " + c);
     if (Modifier.isPublic(c.getModifiers()) || Modifier.isProtected(c.getModifiers())) bad("too visible: " + c);
     fields(c);
-    for (Method m : c.getDeclaredMethods()) if (m.getParameterCount() > 7) bad("more than seven parameters: " + m);
+    for (Method m : c.getDeclaredMethods()) {
+      if (m.getParameterCount() > 7) bad("more than seven parameters: " + m);
+      if (Modifier.isPrivate(m.getModifiers()) && FACE.matches("(.* )?" + m.getName() + "\\(.*")) bad("a public name: " + m);
+    }
+  }
+
+  private static void constants() throws Exception {
+    String[] names = {"NONE", "BAD", "NO", "FULL"};
+    for (int i = 0; i < names.length; i++) {
+      Field f = BikeTown.class.getField(names[i]);
+      if (f.getModifiers() != (Modifier.PUBLIC | Modifier.STATIC | Modifier.FINAL)) bad("not a public constant: " + f);
+      if (f.getType() != int.class || f.getInt(null) != -1 - i) bad("another constant than the document's: " + f);
+    }
+  }
+
+  /** Methods are short; only constructors and fields make objects, so that all calls of a run find room. */
+  private static void methods(String code) {
+    Matcher m = Pattern.compile("(?ms)^( {4}| {8})(?! |private static final class)([^\n;=]*\\)) \\{\n(.*?)^\\1\\}").matcher(code);
+    int seen = 0;
+    while (m.find()) {
+      seen++;
+      if (m.group(3).split("\n").length > 60) bad("a long method: " + m.group(2));
+      boolean isConstructor = m.group(2).matches("(public )?[A-Z]\\w*\\(.*");
+      if (!isConstructor && m.group(3).matches("(?s).*\\bnew\\b.*")) bad("makes an object: " + m.group(2));
+    }
+    if (seen < 100) bad("only " + seen + " methods seen");
   }
 
   private static void fields(Class<?> c) {
